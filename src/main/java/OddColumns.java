@@ -102,7 +102,8 @@ public final class OddColumns {
         State now = timeline.now();
         now.code.copyFrom(script.draft);
         now.words.beginWith(now.code, script.toldData);
-        Arrays.fill(boxIsFull, false);
+        boxIsFull[0] = false;
+        boxIsFull[1] = false;
         return now.code.places();
     }
 
@@ -747,15 +748,18 @@ public final class OddColumns {
         }
 
         void read(Code code, int syndrome, int stuck) {
+            settle(CLEAN, NONE, 0);
             if (syndrome == 0) {
-                settle(CLEAN, NONE, 0);
                 return;
             }
+            int alone = Integer.bitCount(stuck) == 1 ? lowestPlace(stuck) : NONE;
             if (stuck != 0 && readByStuck(code, syndrome, stuck)) {
                 return;
             }
-            boolean oneAlone = Integer.bitCount(stuck) == 1;
-            int one = oneAlone ? NONE : code.placeWith(syndrome);
+            if (alone != NONE && readBesideStuck(code, syndrome, alone)) {
+                return;
+            }
+            int one = alone == NONE ? code.placeWith(syndrome) : NONE;
             int first = code.pairs ? code.pairWith(syndrome) : NONE;
             if (one != NONE) {
                 settle(MENDED_ONE, one, 1 << one);
@@ -777,7 +781,7 @@ public final class OddColumns {
             }
             int other = lowestPlace(stuck & ~(1 << lower));
             if (other == NONE) {
-                return readBesideStuck(code, syndrome, lower);
+                return false;
             }
             int otherColumn = code.columns[other];
             if (syndrome == otherColumn) {
@@ -786,13 +790,13 @@ public final class OddColumns {
             return syndrome == (lowerColumn ^ otherColumn) && settle(HEALED, NONE, stuck);
         }
 
-        private boolean readBesideStuck(Code code, int syndrome, int lone) {
+        private boolean readBesideStuck(Code code, int syndrome, int alone) {
             int asItIs = code.placeWith(syndrome);
             if (asItIs != NONE) {
                 return settle(MENDED_ONE, asItIs, 1 << asItIs);
             }
-            int turnedToo = code.placeWith(syndrome ^ code.columns[lone]);
-            return turnedToo != NONE && settle(HEALED, turnedToo, 1 << turnedToo | 1 << lone);
+            int turnedToo = code.placeWith(syndrome ^ code.columns[alone]);
+            return turnedToo != NONE && settle(HEALED, turnedToo, 1 << turnedToo | 1 << alone);
         }
 
         private boolean settle(int newKind, int newPlace, int newTurned) {
@@ -892,7 +896,7 @@ public final class OddColumns {
         }
 
         int mendWord(Code code, int word, Reading read) {
-            readWord(code, word, read);
+            read.read(code, syndromes[word], stuck[word]);
             countReading(word, read);
             turnPlaces(code, word, read.turned);
             return read.kind;
@@ -1065,7 +1069,7 @@ public final class OddColumns {
             if (count < code.data) {
                 return false;
             }
-            Arrays.fill(taken, false);
+            freeAll();
             code.placeChecks();
             if (way == PAIRED) {
                 if (!choosePaired(code)) {
@@ -1078,6 +1082,13 @@ public final class OddColumns {
             }
             code.lookUpAnew();
             return true;
+        }
+
+        private void freeAll() {
+            for (int i = 0; i < SYNDROMES; i++) {
+                taken[i] = false;
+                joined[i] = false;
+            }
         }
 
         private void listInOrder(int checks) {
@@ -1169,7 +1180,6 @@ public final class OddColumns {
         }
 
         private void joinChecks(int checks) {
-            Arrays.fill(joined, false);
             for (int check = 1; check < checks; check++) {
                 joined[3 << check - 1] = true;
             }
@@ -1241,13 +1251,27 @@ public final class OddColumns {
             reset();
             for (int i = 0; i <= Tape.ROOM && faultKind == 0; i++) {
                 nextToken();
+                if (endsHead()) {
+                    chosen = chooser.chooseColumns(draft, chosenWay);
+                    if (!chosen) {
+                        fail(4);
+                        break;
+                    }
+                }
                 if (token == AT_END) {
-                    takeEnd();
+                    if (wants != WANTS_LINE) {
+                        fail(1);
+                    }
                     break;
                 }
                 takeToken();
             }
             return faultKind == 0;
+        }
+
+        // With the first line of column or word, or the end, all is told that columns are chosen by.
+        private boolean endsHead() {
+            return !chosen && wants == WANTS_LINE && (token == AT_END || tokenIs("column") || tokenIs("word"));
         }
 
         private void reset() {
@@ -1321,14 +1345,6 @@ public final class OddColumns {
             faultPlace = tokenStart;
         }
 
-        private void takeEnd() {
-            if (wants != WANTS_LINE) {
-                fail(1);
-            } else {
-                chooseOnce();
-            }
-        }
-
         private void takeToken() {
             switch (wants) {
                 case WANTS_LINE: takeLine(); break;
@@ -1378,10 +1394,8 @@ public final class OddColumns {
                 tellOnce(8, WANTS_SIGN);
                 draft.pairs = true;
             } else if (tokenIs("column")) {
-                chooseOnce();
                 wants = WANTS_PLACE;
             } else if (tokenIs("word")) {
-                chooseOnce();
                 wants = WANTS_WORD;
             } else {
                 fail(1);
@@ -1395,13 +1409,6 @@ public final class OddColumns {
             }
             toldLines |= line;
             wants = wantsNext;
-        }
-
-        private void chooseOnce() {
-            if (!chosen && !chooser.chooseColumns(draft, chosenWay)) {
-                fail(4);
-            }
-            chosen = true;
         }
 
         private void takeSign() {
