@@ -1522,11 +1522,10 @@ public final class OddColumns {
 
         void seekChange(Code code) {
             settleBest(NONE, NONE, NONE);
-            countThrees(code);
+            countXors(code);
             int unseen = countUnseen(code);
             int fewest = unseen;
             for (int place = 0; place < code.data; place++) {
-                countTwosBeside(code, place);
                 int without = unseen - threesBeside(code, place, code.columns[place]);
                 for (int column = 0; column < 1 << code.checks; column++) {
                     if (!code.isDataColumn(column) || code.placeWith(column) != NONE) {
@@ -1541,12 +1540,14 @@ public final class OddColumns {
             }
         }
 
-        private void countThrees(Code code) {
+        private void countXors(Code code) {
+            Arrays.fill(twosWith, 0);
             Arrays.fill(threesWith, 0);
             int places = code.places();
             for (int i = 0; i < places; i++) {
                 for (int j = i + 1; j < places; j++) {
                     int two = code.columns[i] ^ code.columns[j];
+                    twosWith[two]++;
                     for (int k = j + 1; k < places; k++) {
                         threesWith[two ^ code.columns[k]]++;
                     }
@@ -1554,19 +1555,8 @@ public final class OddColumns {
             }
         }
 
-        private void countTwosBeside(Code code, int place) {
-            Arrays.fill(twosWith, 0);
-            int places = code.places();
-            for (int i = 0; i < places; i++) {
-                for (int j = i + 1; j < places; j++) {
-                    if (i != place && j != place) {
-                        twosWith[code.columns[i] ^ code.columns[j]]++;
-                    }
-                }
-            }
-        }
-
-        // Threes of other places whose XOR is that column: all such, less those with this place.
+        // Threes of other places with that XOR: all, less those of this place and two more. These two are
+        // others, as the column is this place's own or nobody's.
         private int threesBeside(Code code, int place, int column) {
             return threesWith[column] - twosWith[column ^ code.columns[place]];
         }
@@ -1745,7 +1735,7 @@ public final class OddColumns {
             for (int depth = 0; depth < MAX_SIGNALS - 1; depth++) {
                 int here = atDepth[depth];
                 if (left <= 1 && here == left) {
-                    return here == 0 ? 0 : depth;
+                    return depth;
                 }
                 int joined = here / 2;
                 atDepth[depth + 1] += here - joined;

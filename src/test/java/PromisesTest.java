@@ -245,6 +245,9 @@ public final class PromisesTest {
         fault("first;", 1, 0);
         fault("DATA 4;", 1, 0);
         fault("datas 4;", 1, 0);
+        fault("dataz 4;", 1, 0);
+        fault("lata 4;", 1, 0);
+        fault("dat 4;", 1, 0);
         fault("data 4 5;", 1, 7);
         fault("data ;", 1, 5);
         fault("data data 8;", 1, 5);
@@ -1189,14 +1192,19 @@ public final class PromisesTest {
         none("worst(0, 0, -1)", x.worst(0, 0, -1));
         due("worst(0, 0, 0)", x.worst(0, 0, 0), 0);
         due("worst(0, 0, 1)", x.worst(0, 0, 1), 2);
-        for (int n = 1; n <= 100; n += 11) {
+        for (int n = 1; n <= 100; n++) {
+            int every = n % 9;
             int seed = 0;
             for (int s = 0; s < 50; s++) {
-                seed = x.would(s, n, 5) > x.would(seed, n, 5) ? s : seed;
+                seed = x.would(s, n, every) > x.would(seed, n, every) ? s : seed;
             }
-            due("worst(" + n + ", 5, 0)", x.worst(n, 5, 0), seed);
-            due("worst(" + n + ", 5, 1)", x.worst(n, 5, 1), x.would(seed, n, 5));
+            due("worst(" + n + ", " + every + ", 0)", x.worst(n, every, 0), seed);
+            due("worst(" + n + ", " + every + ", 1)", x.worst(n, every, 1), x.would(seed, n, every));
         }
+        // Here the first seed that is not looked at would be worse.
+        OddColumns y = of("data 5; checks 6;");
+        due("would(50, 65, 4)", y.would(50, 65, 4), 8);
+        due("worst(65, 4, 1)", y.worst(65, 4, 1), 7);
         intervals();
     }
 
