@@ -144,6 +144,7 @@ final class ActSentences {
         s.columnsAre(x, 56, 11, 13, 14, 19, 21, 22, 25, 26, 28, 1);
         s.due("code() of nothing", x.code(), 13);
         s.columnsAre(x, 7, 11, 13, 14, 19, 21, 22, 25, 1);
+        codesBehindCodes();
         s.of(4, "WORDS as told, others 0;");
         x = Sentences.busy();
         s.due("code()", Sentences.give(x, "word 0 3; word 15 255;"), 13);
@@ -171,6 +172,12 @@ final class ActSentences {
         s.due("about(6)", x.about(6), 0);
         s.no("undo()", x.undo());
         s.no("redo()", x.redo());
+        for (int ahead = 0; ahead <= 13; ahead++) {
+            x = new OddColumns();
+            writeMany(x, ahead);
+            x.code();
+            s.actsGoOn("behind code() behind " + ahead + " acts", x);
+        }
         s.of(4, "BOXES are empty):");
         x = Sentences.busy();
         x.image(0);
@@ -182,6 +189,33 @@ final class ActSentences {
         s.due("code()", Sentences.give(x, "data 4; checks 4;"), 8);
         s.due("code()", Sentences.give(x, "data 24; checks 8;"), 32);
         s.due("code()", Sentences.give(x, ""), 13);
+    }
+
+    // What an object was ahead of a code is nothing to what it is then: it answers as a new one does.
+    private void codesBehindCodes() {
+        String[] texts = {"", "data 4; checks 4;", "data 24; checks 8; way balanced;", "data 10; way paired; pairs;",
+            "data 12; checks 6; pairs; word 15 4095;", "data 6; checks 7; column 0 127; column 1 124;", "data 11;"};
+        for (String first : texts) {
+            for (String then : texts) {
+                OddColumns x = s.made(first);
+                s.looks(x);
+                x.storm(7, 99, 0);
+                x.stick(3, 3, 1);
+                x.better();
+                x.way(2);
+                x.way(1);
+                s.looks(x);
+                Sentences.give(x, then);
+                OddColumns y = s.made(then);
+                s.same(then + " behind " + first, s.looks(x), s.looks(y));
+            }
+        }
+    }
+
+    private static void writeMany(OddColumns x, int n) {
+        for (int i = 0; i < n; i++) {
+            x.write(0, i);
+        }
     }
 
     private void codeWithFault() {
@@ -608,6 +642,17 @@ final class ActSentences {
         s.columnsAre(x, 7, 13, 19, 14, 11, 28, 21, 26, 1, 2, 4, 8, 16, NONE);
         s.due("word(0, 0)", x.word(0, 0), 1);
         s.due("about(4)", x.about(4), 0);
+        // Anew means as if none had been chosen ahead of it.
+        for (int i = 0; i < 9; i++) {
+            int way = i * 5 % 3;
+            OddColumns fresh = new OddColumns();
+            fresh.way(way);
+            s.yes("way(" + way + ")", x.way(way));
+            s.yes("way(" + way + ") again", x.way(way));
+            for (int place = 0; place < 13; place++) {
+                s.due("columnOf(" + place + ")", x.columnOf(place), fresh.columnOf(place));
+            }
+        }
         s.of(17, "false, and nothing happens, if they can't be.");
         OddColumns y = Sentences.busy();
         for (int way : Sentences.beside(0, 2)) {

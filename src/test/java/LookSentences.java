@@ -805,6 +805,15 @@ final class LookSentences {
         s.no("redo()", x.redo());
         s.due("back(1)", x.back(1), 15);
         s.due("word(0, 0)", x.word(0, 0), 2);
+        for (int ahead = 0; ahead <= 13; ahead++) {
+            OddColumns y = new OddColumns();
+            y.image(0);
+            for (int i = 0; i < ahead; i++) {
+                y.write(0, i);
+            }
+            y.back(0);
+            s.actsGoOn("behind back(0) behind " + ahead + " acts", y);
+        }
         // What is done then is nothing to what is kept.
         x.write(0, 4);
         s.due("back(1)", x.back(1), 15);

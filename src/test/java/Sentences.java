@@ -255,6 +255,46 @@ final class Sentences {
         return sb.toString();
     }
 
+    /** All that looks answer, besides. */
+    String looks(OddColumns x) {
+        StringBuilder sb = new StringBuilder(all(x));
+        for (int what = 0; what < 4; what++) {
+            sb.append(" | ").append(x.rows(what)).append(' ').append(x.threes(what)).append(' ').append(x.twos(what));
+            sb.append(' ').append(x.change(what)).append(' ').append(x.gates(what)).append(' ').append(x.exchange(what));
+            sb.append(' ').append(x.chip(NONE, what)).append(' ').append(x.fours());
+            for (int i = 0; i < 70; i++) {
+                sb.append(' ').append(x.shared(i, what));
+            }
+            for (int i = 0; i < 16; i++) {
+                sb.append(' ').append(x.reading(i, what)).append(' ').append(x.stands(i, what));
+                sb.append(' ').append(x.chip(i, what)).append(' ').append(x.row(i, what)).append(' ').append(x.columns(i, what));
+            }
+            sb.append(' ').append(x.worst(20, what, 0)).append(' ').append(x.interval(what, 20));
+        }
+        for (int syndrome = 0; syndrome < 256; syndrome++) {
+            sb.append(' ').append(x.find(syndrome, 0)).append(' ').append(x.find(syndrome, 1));
+        }
+        return sb.toString();
+    }
+
+    /** Behind what leaves no act: more acts than are kept, taken back and done again. */
+    void actsGoOn(String where, OddColumns x) {
+        due("about(5) " + where, x.about(5), 0);
+        due("about(6) " + where, x.about(6), 0);
+        for (int i = 1; i <= 13; i++) {
+            x.write(1, i);
+        }
+        for (int i = 12; i >= 1; i--) {
+            yes("undo() " + where, x.undo());
+            due("word(1, 0) " + where, x.word(1, 0), i);
+        }
+        no("undo() " + where, x.undo());
+        for (int i = 2; i <= 13; i++) {
+            yes("redo() " + where, x.redo());
+            due("word(1, 0) " + where, x.word(1, 0), i);
+        }
+    }
+
     /** Numbers beside those from least to most. */
     static int[] beside(int least, int most) {
         return new int[] {LEAST, LEAST + 1, -65536 + least, -256 + least, least - 2, least - 1, most + 1, most + 2,

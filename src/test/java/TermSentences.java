@@ -735,6 +735,10 @@ final class TermSentences {
         s.none("change(0)", x.change(0));
         s.none("change(1)", x.change(1));
         s.none("change(2)", x.change(2));
+        // To give a check another one would leave 8: it is none of data.
+        x = s.made("data 4; checks 7; column 1 41; column 2 110; column 3 127;");
+        s.due("threes(0)", x.threes(0), 16);
+        s.due("change(2)", x.change(2), 12);
         s.of(TERMS, "of like ones the least place, then the least COLUMN.");
         // 7, 11, 13, 14 of eight rows: by rows that change places each is as good as each.
         x = s.made("data 4; checks 8;");
@@ -842,6 +846,8 @@ final class TermSentences {
         sharedIs(x, 0, 0, 1, 2, 1);
         s.due("gates(2)", x.gates(2), 1);
         s.due("gates(3)", x.gates(3), 2);
+        // All four have rows 0 and 1: what is left of these is one of depth 2; the others have one wire each.
+        gatesAre(s.made("data 4; checks 6; column 0 7; column 1 11; column 2 19; column 3 35;"), 6, 3, 3, 2);
         // One is left at once: rows 3 to 7 have one signal or none.
         s.due("gates(1)", x.gates(1), 1 + 2);
     }
@@ -888,10 +894,23 @@ final class TermSentences {
         for (String text : new String[] {"", "pairs;", "data 12; checks 6;", "data 11; pairs;", "data 9; checks 7; pairs;"}) {
             exchangeIsBest(text);
         }
-        OddColumns x = s.made("data 4; checks 4;");
-        for (int what = 0; what < 3; what++) {
-            s.none("exchange(" + what + ")", x.exchange(what));
+        noExchange("data 4; checks 4;");
+        // To exchange 26 with the first check's 1 would leave 3 of 5: it is none of data.
+        noExchange("data 4; checks 6; column 0 26; column 1 22; column 2 62; column 3 50;");
+        // Made one by one, there is none in the end.
+        OddColumns bettered = s.made("data 12; checks 6;");
+        int made = 0;
+        while (made < 100 && bettered.swap(bettered.exchange(0), bettered.exchange(1))) {
+            made++;
         }
+        s.due("some, then none", made > 0 && made < 100 ? 1 : 0, 1);
+        s.none("exchange(2)", bettered.exchange(2));
+        // Two side by side, with PAIRS.
+        OddColumns x = s.made("data 4; pairs; column 2 22; column 3 13; column 0 14; column 1 31;");
+        s.due("chip(NONE, 2)", x.chip(NONE, 2), 7);
+        s.due("exchange(0)", x.exchange(0), 0);
+        s.due("exchange(1)", x.exchange(1), 1);
+        s.due("exchange(2)", x.exchange(2), 5);
         s.of(TERMS, "of like ones the least lower place, then the least other one.");
         x = s.made("data 11; pairs;");
         int best = x.exchange(2);
@@ -912,6 +931,13 @@ final class TermSentences {
         s.due("like ones are many", like > 1 ? 1 : 0, 1);
         s.due("exchange(0)", x.exchange(0), lower);
         s.due("exchange(1)", x.exchange(1), other);
+    }
+
+    private void noExchange(String text) {
+        OddColumns x = s.made(text);
+        for (int what = 0; what < 3; what++) {
+            s.none("exchange(" + what + ") of " + text, x.exchange(what));
+        }
     }
 
     private void exchangeIsBest(String text) {

@@ -300,6 +300,29 @@ final class TextSentences {
                 ahead = ahead + line[i] + " ";
             }
         }
+        nearlyWords();
+    }
+
+    // Each word with each of its letters in turn another one, one letter less, one more.
+    private void nearlyWords() {
+        String[] lines = {"data 8;", "checks 5;", "pairs;", "column 0 26;", "word 3 9;", "way first;"};
+        for (String line : lines) {
+            int length = line.startsWith("pairs") ? 5 : line.indexOf(' ');
+            nearly("", line, 0, length);
+        }
+        nearly("way ", "first;", 4, 5);
+        nearly("way ", "balanced;", 4, 8);
+        nearly("way ", "paired;", 4, 6);
+    }
+
+    private void nearly(String ahead, String line, int place, int length) {
+        for (int i = 0; i < length; i++) {
+            char other = line.charAt(i) == 'z' ? 'a' : (char) (line.charAt(i) + 1);
+            s.fault(ahead + line.substring(0, i) + other + line.substring(i + 1), 1, place);
+        }
+        s.fault(ahead + line.substring(0, length - 1) + line.substring(length), 1, place);
+        s.fault(ahead + line.substring(0, length) + "s" + line.substring(length), 1, place);
+        s.fault(ahead + "a" + line, 1, place);
     }
 
     private void wrongTokens(String ahead, String[] tokens, boolean areWrong) {
