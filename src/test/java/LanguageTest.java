@@ -1,3 +1,6 @@
+import com.sun.source.tree.CompilationUnitTree;
+import com.sun.source.util.JavacTask;
+import com.sun.source.util.Trees;
 import java.lang.reflect.Constructor;
 import java.lang.reflect.Field;
 import java.lang.reflect.Method;
@@ -9,33 +12,24 @@ import java.util.List;
 import java.util.TreeSet;
 import java.util.regex.Matcher;
 import java.util.regex.Pattern;
+import javax.tools.JavaCompiler;
+import javax.tools.StandardJavaFileManager;
+import javax.tools.ToolProvider;
 
-/** The public face by reflection, and what ../shared/LANGUAGE.md rules out that can be seen in the text. */
+/** The public face as the document prints it, and the rules of ../shared/LANGUAGE.md by the compiler's own tree. */
 public final class LanguageTest {
-    private static final String FACE = "int NONE; OddColumns(); int feed(int,int,int,int,int); int end(int); int code(); int fault(int);"
-        + " boolean write(int,int); int part(int,int,int); int mend(int); int scrub(); int slip(int,int);"
-        + " boolean burst(int,int,int); int storm(int,int,int); boolean stick(int,int,int); int free(int);"
-        + " boolean column(int,int); boolean swap(int,int); boolean way(int); boolean pairs(boolean); int better();"
-        + " boolean undo(); boolean redo(); int columnOf(int); int row(int,int); int rows(int); int word(int,int);"
-        + " int reading(int,int); int stuck(int,int); int stands(int,int); int find(int,int); int threes(int);"
-        + " int fours(); int twos(int); int change(int); int gates(int); int shared(int,int); int chip(int,int);"
-        + " int exchange(int); int fewest(int); int columns(int,int); int would(int,int,int); int worst(int,int,int);"
-        + " int interval(int,int); int tally(int); int image(int); int back(int); int about(int)";
-
-    private static final String[] RULED_OUT = {
-        "\\bthrow\\b", "\\bthrows\\b", "\\btry\\b", "\\bcatch\\b", "\\bfinally\\b", "\\bsynchronized\\b", "\\bassert\\b",
-        "->", "::", "\\bExact\\b", "\\bjava\\.(?!util\\.Arrays;)", "\\bSystem\\.(?!arraycopy)", "\\bpackage\\b",
-        "\\bvolatile\\b", "\\bnew [A-Za-z]+\\([^)]*\\) *\\{", "\\bequals\\(", "\\bhashCode\\b", "\\btoString\\b", "\\bvar\\b",
-        "\\[\\]\\[\\]\\[\\]", "\\bMath\\.random", "\\bThread\\b", "static *\\{", "\\bInteger\\.(?!bitCount)", "\\bArrays\\.(?!fill)",
-    };
+    private static final Path SOURCE = Path.of("src/main/java/OddColumns.java");
+    private static final Path DOCUMENT = Path.of("../shared/DOC.md");
+    // The constant, the constructor and 45 methods: promises 1 to 46.
+    private static final int FACE_LINES = 47;
 
     private static int wrong = 0;
 
     public static void main(String[] args) throws Exception {
-        face();
-        String source = Files.readString(Path.of("src/main/java/OddColumns.java"));
-        text(source);
-        lengths(source);
+        face(Files.readString(DOCUMENT));
+        signs(Files.readString(SOURCE));
+        rules();
+        brokenRules();
         System.out.println(wrong == 0 ? "LanguageTest: as the rules say" : "LanguageTest: " + wrong + " against the rules");
         if (wrong != 0) {
             System.exit(1);
@@ -47,14 +41,45 @@ public final class LanguageTest {
         System.out.println("LanguageTest: " + what);
     }
 
-    private static void face() {
-        TreeSet<String> due = new TreeSet<>(List.of(FACE.split("; ")));
-        TreeSet<String> is = new TreeSet<>();
-        TreeSet<String> publicNames = new TreeSet<>();
+    // ---------------------------------------------------------------- the face
+
+    private static void face(String document) {
         Class<?> c = OddColumns.class;
         if (!Modifier.isPublic(c.getModifiers()) || !Modifier.isFinal(c.getModifiers())) {
             bad("the class is not public and final");
         }
+        TreeSet<String> due = printedFace(document);
+        TreeSet<String> is = faceOf(c);
+        if (due.size() != FACE_LINES || !is.equals(due)) {
+            bad("the face is " + is + ", due is " + due);
+        }
+        TreeSet<String> names = new TreeSet<>();
+        for (Method m : c.getDeclaredMethods()) {
+            if (Modifier.isPublic(m.getModifiers())) {
+                names.add(m.getName());
+            }
+        }
+        for (Method m : c.getDeclaredMethods()) {
+            if (!Modifier.isPublic(m.getModifiers()) && names.contains(m.getName())) {
+                bad("private method " + m.getName() + " bears a public name");
+            }
+        }
+        inside(c, names);
+    }
+
+    private static TreeSet<String> printedFace(String document) {
+        int from = document.indexOf("```java", document.indexOf("## The public face"));
+        String block = document.substring(from, document.indexOf("```", from + 3));
+        TreeSet<String> lines = new TreeSet<>();
+        Matcher m = Pattern.compile("\n    public ([^;]*);").matcher(block);
+        while (m.find()) {
+            lines.add(m.group(1).replaceAll("(int|boolean) [a-z]+([,)])", "$1$2").replace(", ", ","));
+        }
+        return lines;
+    }
+
+    private static TreeSet<String> faceOf(Class<?> c) {
+        TreeSet<String> is = new TreeSet<>();
         for (Constructor<?> k : c.getDeclaredConstructors()) {
             if (!Modifier.isPrivate(k.getModifiers())) {
                 is.add("OddColumns" + parameters(k.getParameterTypes()));
@@ -63,49 +88,14 @@ public final class LanguageTest {
         for (Method m : c.getDeclaredMethods()) {
             if (!Modifier.isPrivate(m.getModifiers())) {
                 is.add(m.getReturnType().getSimpleName() + " " + m.getName() + parameters(m.getParameterTypes()));
-                publicNames.add(m.getName());
             }
         }
         for (Field f : c.getDeclaredFields()) {
             if (!Modifier.isPrivate(f.getModifiers())) {
-                is.add(f.getType().getSimpleName() + " " + f.getName());
-            }
-            if (Modifier.isStatic(f.getModifiers()) && !Modifier.isFinal(f.getModifiers())) {
-                bad("static field " + f.getName() + " can change");
+                is.add("static final int " + f.getName() + " = " + OddColumns.NONE);
             }
         }
-        if (!is.equals(due)) {
-            bad("the face is " + is + ", due is " + due);
-        }
-        for (Method m : c.getDeclaredMethods()) {
-            if (Modifier.isPrivate(m.getModifiers()) && publicNames.contains(m.getName())) {
-                bad("private method " + m.getName() + " bears a public name");
-            }
-        }
-        inside(c, publicNames);
-    }
-
-    private static void inside(Class<?> c, TreeSet<String> publicNames) {
-        if (c.getDeclaredClasses().length > 11) {
-            bad("too many classes");
-        }
-        for (Class<?> in : c.getDeclaredClasses()) {
-            if (!Modifier.isStatic(in.getModifiers()) || Modifier.isPublic(in.getModifiers())) {
-                bad("class " + in + " is not static, or public");
-            }
-            int fields = 0;
-            for (Field f : in.getDeclaredFields()) {
-                fields += Modifier.isStatic(f.getModifiers()) ? 0 : 1;
-            }
-            if (fields > 20) {
-                bad("class " + in + " has " + fields + " fields");
-            }
-            for (Method m : in.getDeclaredMethods()) {
-                if (publicNames.contains(m.getName()) || m.getParameterCount() > 7) {
-                    bad("method " + m);
-                }
-            }
-        }
+        return is;
     }
 
     private static String parameters(Class<?>[] types) {
@@ -116,44 +106,98 @@ public final class LanguageTest {
         return "(" + String.join(",", names) + ")";
     }
 
-    private static void text(String source) {
-        String bare = source.replaceAll("//[^\n]*", "").replaceAll("(?s)/\\*.*?\\*/", "");
-        for (String pattern : RULED_OUT) {
-            Matcher m = Pattern.compile(pattern).matcher(bare);
-            if (m.find()) {
-                bad("has " + pattern + ": " + m.group());
+    private static void inside(Class<?> c, TreeSet<String> publicNames) {
+        for (Class<?> in : c.getDeclaredClasses()) {
+            if (!Modifier.isStatic(in.getModifiers()) || Modifier.isPublic(in.getModifiers())) {
+                bad("class " + in + " is not static, or public");
+            }
+            for (Method m : in.getDeclaredMethods()) {
+                if (publicNames.contains(m.getName())) {
+                    bad("method " + m + " bears a public name");
+                }
             }
         }
+    }
+
+    // ---------------------------------------------------------------- the rules
+
+    private static void signs(String source) {
         for (int i = 0; i < source.length(); i++) {
             if (source.charAt(i) > 126) {
                 bad("a sign beyond 126 at " + i);
             }
         }
-        // Rows are made with their objects, so that no call makes any.
-        Matcher m = Pattern.compile("\n *+(?!final|private final)[^\n]*\\bnew\\b[^\n]*").matcher(bare);
-        while (m.find()) {
-            String line = m.group().trim();
-            if (!line.matches("(script|timeline|boxes|boxIsFull|read|searcher|sharing|draft|trialWords|states|states\\[i\\]) = .*")) {
-                bad("makes an object outside a constructor: " + line);
-            }
+    }
+
+    private static void rules() throws Exception {
+        for (String broken : brokenIn(SOURCE)) {
+            bad(broken);
         }
     }
 
-    private static void lengths(String source) {
-        String[] lines = source.split("\n");
-        int start = -1;
-        String indent = "";
-        for (int i = 0; i < lines.length; i++) {
-            Matcher m = Pattern.compile("( {4}| {8})(?! )(?!private static final class).*\\) \\{").matcher(lines[i]);
-            if (start < 0 && m.matches()) {
-                start = i;
-                indent = m.group(1);
-            } else if (start >= 0 && lines[i].equals(indent + "}")) {
-                if (i - start > 60) {
-                    bad("a long method: " + lines[start].trim());
-                }
-                start = -1;
+    private static List<String> brokenIn(Path source) throws Exception {
+        JavaCompiler compiler = ToolProvider.getSystemJavaCompiler();
+        try (StandardJavaFileManager files = compiler.getStandardFileManager(null, null, null)) {
+            JavacTask task = (JavacTask) compiler.getTask(null, files, null, List.of("-proc:none"), null,
+                files.getJavaFileObjects(source));
+            Iterable<? extends CompilationUnitTree> units = task.parse();
+            task.analyze();
+            Rules rules = new Rules(Trees.instance(task));
+            for (CompilationUnitTree unit : units) {
+                rules.goThrough(unit);
+            }
+            return rules.broken();
+        }
+    }
+
+    /** Each of these breaks one rule alone: a rule that sees nothing in it would see nothing in the class. */
+    private static final String[][] BROKEN = {
+        {"rule 2", "Runnable r() { return () -> { }; }"},
+        {"rule 2", "void a() { class Local { } }"},
+        {"rule 2", "class Inner { }"},
+        {"rule 3", "int[][][] deep;"},
+        {"rule 3", "Object any;"},
+        {"rule 4", "int a(int i) { return Math.addExact(i, 1); }"},
+        {"rule 4", "long a() { return System.nanoTime(); }"},
+        {"rule 4", "void a(boolean[] b) { java.util.Arrays.fill(b, true); }"},
+        {"rule 5", "static int count;"},
+        {"rule 5", "static { }"},
+        {"rule 6", "void a() { throw new IllegalArgumentException(); }"},
+        {"rule 6", "void a() { try { a2(); } finally { a2(); } } void a2() { }"},
+        {"rule 6", "void a(boolean b) { assert b; }"},
+        {"rule 6", "boolean a(String s, String t) { return s == t; }"},
+        {"rule 6", "public String toString() { return null; }"},
+        {"rule 7", "int a(int i) { return 1 / i; }"},
+        {"rule 7", "int a(int i) { i %= i; return i; }"},
+        {"rule 8", "int a(int i) { return i < 1 ? 0 : b(i - 1); } int b(int i) { return a(i); }"},
+        {"rule 9", "void a() { for (;;) { } }"},
+        {"rule 9", "void a() { while (true) { } }"},
+        {"rule 10", "String a(String s) { return s + s; }"},
+        {"rule 11", "void a(int b, int c, int d, int e, int f, int g, int h, int i) { }"},
+        {"rule 11", "void a() { b(); } void b() { c(); } void c() { d(); } void d() { e(); } void e() { f(); }"
+            + " void f() { g(); } void g() { h(); } void h() { i(); } void i() { }"},
+        {"rule 12", "int[] a() { return new int[4]; }"},
+    };
+
+    private static void brokenRules() throws Exception {
+        Path folder = Files.createTempDirectory("rules");
+        Path file = folder.resolve("Broken.java");
+        for (String[] one : BROKEN) {
+            Files.writeString(file, "final class Broken { " + one[1] + " }\n");
+            List<String> broken = brokenIn(file);
+            boolean seen = false;
+            for (String line : broken) {
+                seen |= line.startsWith(one[0] + ":");
+            }
+            if (!seen) {
+                bad(one[0] + " is not seen broken in " + one[1] + ", only " + broken);
             }
         }
+        Files.writeString(file, "final class Broken { int a(int i) { return i > 0 ? 7 / i : 7 % 3; } }\n");
+        if (!brokenIn(file).isEmpty()) {
+            bad("a rule is broken where none is: " + brokenIn(file));
+        }
+        Files.delete(file);
+        Files.delete(folder);
     }
 }
